@@ -41,6 +41,9 @@ public final class LooksTest {
             check.due(run + "create", x.create(0, 0), 0);
             check.due(run + "empty is not genuine", x.genuine(0, 1), false);
             check.due(run + "empty is refused", x.read(1, 0), CapabilityServer.REFUSED);
+            check.due(run + "one without rights", x.restrict(0, 0, 2, 0), 0);
+            check.due(run + "is genuine", x.genuine(0, 2), true);
+            check.due(run + "is no empty slot", x.clear(0, 2), 1);
             check.due(run + "create", x.create(1, 0), 1);
             check.due(run + "genuine", x.genuine(1, 0), true);
             check.due(run + "copy", x.copy(0, 0, 9), 0);
