@@ -16,6 +16,13 @@ final class Check {
         }
     }
 
+    void due(String call, String got, String want) {
+        if (!got.equals(want)) {
+            wrong++;
+            System.out.println(call + " answered\n  " + got + ", due is\n  " + want);
+        }
+    }
+
     boolean allAsDue() {
         return wrong == 0;
     }
