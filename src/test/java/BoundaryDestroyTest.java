@@ -17,7 +17,8 @@ public final class BoundaryDestroyTest {
         promise.holds("5: also if the object is made again", BoundaryDestroyTest::alsoIfMadeAgain);
         promise.holds("5: also if it is made again and again", BoundaryDestroyTest::madeAgainAndAgain);
         promise.holds("5: also one that was changed meanwhile", BoundaryDestroyTest::changedMeanwhile);
-        promise.holds("5: a slot holds on to what is genuine no more", BoundaryDestroyTest::slotsKeepThem);
+        promise.holds("5: a slot holds on to what is genuine no more",
+            check -> ManyForOne.slotsKeepThem(check, 4, destroy));
         promise.finish();
     }
 
@@ -40,26 +41,11 @@ public final class BoundaryDestroyTest {
         }
     }
 
-    /** Object 1 is held in six slots of both users: whole, copied, restricted, and with DESTROY alone. */
-    private static CapabilityServer manyForOne() {
-        CapabilityServer x = new CapabilityServer(6);
-        x.create(0, 7);
-        x.create(0, 0);
-        x.copy(0, 0, 1);
-        x.copy(0, 0, 8);
-        x.restrict(0, 0, 2, 0);
-        x.restrict(0, 0, 3, 4);
-        x.restrict(1, 0, 3, 15);
-        return x;
-    }
-
-    private static final int[] HOLDERS = {0, 1, 2, 3, 8, 11};
-
     private static void allForIt(Check check) {
-        for (int by : new int[] {0, 1, 3, 8, 11}) {
-            CapabilityServer x = manyForOne();
+        for (int by : ManyForOne.ABLE) {
+            CapabilityServer x = ManyForOne.open(4);
             check.due("destroy", x.destroy(by >> 3, by & 7), 0);
-            for (int place : HOLDERS) {
+            for (int place : ManyForOne.HOLDERS) {
                 check.due("place " + place, x.genuine(place >> 3, place & 7), false);
             }
             check.due("the other object's", x.genuine(0, 7), true);
@@ -67,12 +53,12 @@ public final class BoundaryDestroyTest {
     }
 
     private static void alsoIfMadeAgain(Check check) {
-        for (int by : new int[] {0, 1, 3, 8, 11}) {
-            CapabilityServer x = manyForOne();
+        for (int by : ManyForOne.ABLE) {
+            CapabilityServer x = ManyForOne.open(4);
             x.destroy(by >> 3, by & 7);
             check.due("made again", x.create(1, 6), 1);
             x.add(1, 6, 9);
-            for (int place : HOLDERS) {
+            for (int place : ManyForOne.HOLDERS) {
                 check.due("genuine", x.genuine(place >> 3, place & 7), false);
                 check.due("read", x.read(place >> 3, place & 7), REFUSED);
                 check.due("destroy", x.destroy(place >> 3, place & 7), REFUSED);
@@ -108,18 +94,7 @@ public final class BoundaryDestroyTest {
     }
 
     private static void changedMeanwhile(Check check) {
-        CapabilityServer x = new CapabilityServer(6);
-        x.create(0, 0);
-        x.create(0, 1);
-        x.copy(0, 0, 2);
-        x.tamper(0, 2, 16);
-        x.copy(0, 1, 3);
-        x.tamper(0, 3, 16);
-        x.destroy(0, 0);
-        x.tamper(0, 2, 16);
-        x.tamper(0, 3, 16);
-        check.due("one for it, undone", x.genuine(0, 2), false);
-        check.due("one that only named it, undone", x.genuine(0, 3), true);
+        CapabilityServer x = ManyForOne.changedMeanwhile(check, CapabilityServer::destroy);
         x.create(0, 4);
         check.due("one for it, made again", x.genuine(0, 2), false);
         check.due("one that only named it", x.genuine(0, 3), true);
@@ -127,18 +102,5 @@ public final class BoundaryDestroyTest {
         x.tamper(0, 4, 16);
         check.due("neither reaches object 1", x.genuine(0, 2), false);
         check.due("neither reaches object 1", x.genuine(0, 4), false);
-    }
-
-    private static void slotsKeepThem(Check check) {
-        CapabilityServer x = manyForOne();
-        x.destroy(0, 0);
-        int[] rights = {15, 15, 0, 4, 15, 15};
-        for (int i = 0; i < HOLDERS.length; i++) {
-            int user = HOLDERS[i] >> 3;
-            int slot = HOLDERS[i] & 7;
-            check.due("rights", x.rights(user, slot), rights[i]);
-            check.due("tamper", x.tamper(user, slot, 0), 0);
-            check.due("clear", x.clear(user, slot), 1);
-        }
     }
 }

@@ -14,37 +14,22 @@ public final class BoundaryRevokeTest {
         promise.holds("6: REVOKE is enough", check -> Boundary.enoughIs(check, 8, revoke, new int[] {0, 0}));
         promise.holds("6: all capabilities for the slot's object are revoked", BoundaryRevokeTest::allForIt);
         promise.holds("6: also if it is revoked again and again", BoundaryRevokeTest::againAndAgain);
-        promise.holds("6: also one that was changed meanwhile", BoundaryRevokeTest::changedMeanwhile);
+        promise.holds("6: also one that was changed meanwhile",
+            check -> ManyForOne.changedMeanwhile(check, revoke));
         promise.holds("6: the slot holds a new genuine one", BoundaryRevokeTest::newOneIsGenuine);
         promise.holds("6: with the rights that it had", BoundaryRevokeTest::rightsThatItHad);
         promise.holds("6: the object lives on with its value", BoundaryRevokeTest::objectLivesOn);
         promise.holds("6: other objects' capabilities stay", BoundaryRevokeTest::othersStay);
-        promise.holds("6: a slot holds on to what is revoked", BoundaryRevokeTest::slotsKeepThem);
+        promise.holds("6: a slot holds on to what is revoked",
+            check -> ManyForOne.slotsKeepThem(check, 8, revoke));
         promise.finish();
     }
 
-    private static final int[] HOLDERS = {0, 1, 2, 3, 8, 11};
-    private static final int[] REVOKERS = {0, 1, 3, 8, 11};
-
-    /** Object 1 is held in six slots of both users: whole, copied, without rights, and with REVOKE alone. */
-    private static CapabilityServer manyForOne() {
-        CapabilityServer x = new CapabilityServer(6);
-        x.create(0, 7);
-        x.create(0, 0);
-        x.add(0, 0, 19);
-        x.copy(0, 0, 1);
-        x.copy(0, 0, 8);
-        x.restrict(0, 0, 2, 0);
-        x.restrict(0, 0, 3, 8);
-        x.restrict(1, 0, 3, 15);
-        return x;
-    }
-
     private static void allForIt(Check check) {
-        for (int by : REVOKERS) {
-            CapabilityServer x = manyForOne();
+        for (int by : ManyForOne.ABLE) {
+            CapabilityServer x = ManyForOne.open(8);
             check.due("revoke", x.revoke(by >> 3, by & 7), 0);
-            for (int place : HOLDERS) {
+            for (int place : ManyForOne.HOLDERS) {
                 check.due("place " + place + " after " + by, x.genuine(place >> 3, place & 7), place == by);
             }
         }
@@ -74,24 +59,9 @@ public final class BoundaryRevokeTest {
         }
     }
 
-    private static void changedMeanwhile(Check check) {
-        CapabilityServer x = new CapabilityServer(6);
-        x.create(0, 0);
-        x.create(0, 1);
-        x.copy(0, 0, 2);
-        x.tamper(0, 2, 16);
-        x.copy(0, 1, 3);
-        x.tamper(0, 3, 16);
-        x.revoke(0, 0);
-        x.tamper(0, 2, 16);
-        x.tamper(0, 3, 16);
-        check.due("one for it, undone", x.genuine(0, 2), false);
-        check.due("one that only named it, undone", x.genuine(0, 3), true);
-    }
-
     private static void newOneIsGenuine(Check check) {
-        for (int by : REVOKERS) {
-            CapabilityServer x = manyForOne();
+        for (int by : ManyForOne.ABLE) {
+            CapabilityServer x = ManyForOne.open(8);
             int user = by >> 3;
             int slot = by & 7;
             x.copy(user, slot, 14);
@@ -122,7 +92,7 @@ public final class BoundaryRevokeTest {
     }
 
     private static void objectLivesOn(Check check) {
-        CapabilityServer x = manyForOne();
+        CapabilityServer x = ManyForOne.open(8);
         x.revoke(1, 0);
         check.due("alive", x.alive(), 2);
         check.due("value", x.read(1, 0), 19);
@@ -141,19 +111,6 @@ public final class BoundaryRevokeTest {
                 check.due("slot " + slot, x.genuine(0, slot), true);
                 check.due("the copy of " + slot, x.genuine(1, slot), slot != object);
             }
-        }
-    }
-
-    private static void slotsKeepThem(Check check) {
-        CapabilityServer x = manyForOne();
-        x.revoke(0, 1);
-        int[] rights = {15, 15, 0, 8, 15, 15};
-        for (int i = 0; i < HOLDERS.length; i++) {
-            int user = HOLDERS[i] >> 3;
-            int slot = HOLDERS[i] & 7;
-            check.due("rights", x.rights(user, slot), rights[i]);
-            check.due("tamper", x.tamper(user, slot, 0), 0);
-            check.due("clear", x.clear(user, slot), 1);
         }
     }
 }
